@@ -505,7 +505,7 @@ public final class MayGreen {
         }
 
         static int view(int one, int other) {
-            return one * SIDE + placeOf(other);
+            return one * SIDE + other % SIDE;
         }
     }
 
