@@ -356,9 +356,12 @@ public final class MayGreen {
     }
 
     public int pairs(int m, int what) {
+        if (m < 0 || m > 100) {
+            return NONE;
+        }
         switch (what) {
             case 0: return now.pairsOf(0);
-            case 1: return m < 0 || m > 100 ? NONE : now.pairsOf(m);
+            case 1: return now.pairsOf(m);
             default: return NONE;
         }
     }

@@ -448,6 +448,12 @@ final class MayTest {
         due.is("-1 YESES", g.pairs(-1, 1), NONE);
         due.is("others", g.pairs(0, 2), NONE);
         due.is("others below", g.pairs(0, -1), NONE);
+        due.is("all pairs, m 3", g.pairs(3, 0), 2);
+        due.is("all pairs, m 100", g.pairs(100, 0), 2);
+        due.is("all pairs, m 101", g.pairs(101, 0), NONE);
+        due.is("all pairs, m -1", g.pairs(-1, 0), NONE);
+        due.is("all pairs, m least", g.pairs(VOID, 0), NONE);
+        due.is("all pairs, m most", g.pairs(2147483647, 0), NONE);
         g.may(50);
         g.may(50);
         due.is("100 YESES or more", g.pairs(100, 1), 2);

@@ -782,7 +782,7 @@ final class Oracle {
     }
 
     int pairs(int m, int what) {
-        if (what < 0 || what > 1 || what == 1 && (m < 0 || m > 100)) {
+        if (what < 0 || what > 1 || m < 0 || m > 100) {
             return NONE;
         }
         return (int) days.mate.keySet().stream()

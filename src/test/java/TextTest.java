@@ -59,6 +59,8 @@ final class TextTest {
         due.is("new: never", g.never(0), VOID);
         due.is("new: pairs", g.pairs(0, 0), 0);
         due.is("new: pairs of YESES", g.pairs(0, 1), 0);
+        due.is("new: pairs, an m that can't be", g.pairs(-1, 0), NONE);
+        due.is("new: pairs of YESES that can't be", g.pairs(101, 1), NONE);
         due.is("asking is never refused", g.status(0) + g.status(1) + g.status(2), 0);
     }
 
