@@ -476,31 +476,45 @@ final class MayTest {
         due.is("refused for 2", g.status(2), 1);
     }
 
-    private static void on() {
+    /** Four years, by lots of a seed, with an image of them. */
+    private static MayGreen fourYears() {
         MayGreen g = Village.of("left a 0;right b 0;right c 0;think a b 8 16 0;fit a b 0;fit a c 7;child 7 1;ahead 1;");
-        due.is("no image", g.on(0), false);
-        due.is("none such", g.on(3), false);
-        due.is("none such below", g.on(-1), false);
-        due.is("refused", g.status(0), 3);
         g.way(3);
         g.seed(5);
         g.may(4);
         g.image(1);
-        String then = Seen.of(g);
+        return g;
+    }
+
+    private static MayGreen goneOnFrom(int more) {
+        MayGreen g = fourYears();
         g.may(10);
-        String later = Seen.of(g);
         g.way(1);
         g.seed(9);
         g.part(0);
         g.join(0, 10);
         g.may(3);
-        due.is("another one is not kept", g.on(0), false);
         due.is("gone on from", g.on(1), true);
-        due.is("as then", Seen.of(g).equals(then), true);
-        g.may(10);
-        due.is("the same years by the same lots", Seen.of(g).equals(later), true);
+        if (more > 0) {
+            g.may(more);
+        }
+        return g;
+    }
+
+    private static void on() {
+        MayGreen none = Village.of(FOUR);
+        due.is("no image", none.on(0), false);
+        due.is("none such", none.on(3), false);
+        due.is("none such below", none.on(-1), false);
+        due.is("refused", none.status(0), 3);
+        MayGreen later = fourYears();
+        later.may(10);
+        due.is("as then", Seen.of(goneOnFrom(0)).equals(Seen.of(fourYears())), true);
+        due.is("the same years by the same lots", Seen.of(goneOnFrom(10)).equals(Seen.of(later)), true);
+        MayGreen g = goneOnFrom(10);
+        due.is("another one is not kept", g.on(0), false);
         due.is("again", g.on(1), true);
-        due.is("as then again", Seen.of(g).equals(then), true);
+        due.is("as then again", Seen.of(g).equals(Seen.of(fourYears())), true);
         g.image(2);
         g.may(1);
         g.image(1);
@@ -508,7 +522,7 @@ final class MayTest {
         due.is("YEAR 4", g.count(2), 4);
         due.is("the other", g.on(1), true);
         due.is("YEAR 5", g.count(2), 5);
-        due.is("REFUSED is not kept", g.status(0), 4);
+        due.is("REFUSED is not kept", g.status(0), 1);
     }
 
     private static void status() {
@@ -516,7 +530,6 @@ final class MayTest {
         due.is("others", g.status(3), NONE);
         due.is("others below", g.status(-1), NONE);
         due.is("others far", g.status(Integer.MIN_VALUE), NONE);
-        String seen = Seen.of(g);
         g.way(7);
         g.join(0, 14);
         g.part(-1);
@@ -530,7 +543,7 @@ final class MayTest {
         g.part(0);
         due.is("can't be otherwise", g.status(2), 5);
         due.is("room there is", g.status(1), 0);
-        due.is("nothing else is changed", Seen.of(g).equals(seen), true);
+        due.is("nothing else is changed", Seen.of(g).equals(Seen.of(Village.of(FOUR))), true);
         g.person(99, 9);
         g.log(99, 9);
         due.is("asking is not refused", g.status(0) + g.status(1) + g.status(2), 10);

@@ -11,23 +11,14 @@ final class WildTest {
         "left a 3;left b 4;right p 2;think a p 16 16 0;think b p 0 16 0;fit a p 0;house 2 5;child 8 3;cow 1;ahead 2;",
         "left a 0;right b 0;right c 0;think a b 8 16 0;fit a b 0;fit a c 7;ahead 1;",
     };
+    /** Of the kinds of calls the first ones would change something. */
+    private static final int CHANGING = 10;
+    private static final int KINDS = 34;
     private static final Due due = new Due("WildTest");
 
     public static void main(String[] args) {
-        for (int run = 0; run < 60; run++) {
-            Random random = new Random(run);
-            MayGreen g = new MayGreen();
-            for (int call = 0; call < 250; call++) {
-                if (call % 50 == 10) {
-                    Village.write(g, TEXTS[random.nextInt(TEXTS.length)]);
-                    g.village();
-                }
-                if (call % 3 == 0) {
-                    refusedChangesNothing(g, random);
-                } else {
-                    any(g, random.nextInt(34), random);
-                }
-            }
+        for (int run = 0; run < 600; run++) {
+            refusedChangesNothing(run);
         }
         due.close();
     }
@@ -36,15 +27,32 @@ final class WildTest {
         return random.nextInt(12) == 0 ? random.nextInt() : EDGES[random.nextInt(EDGES.length)];
     }
 
-    private static void refusedChangesNothing(MayGreen g, Random random) {
-        String seen = Seen.of(g);
-        int refused = g.status(0) + g.status(1) + g.status(2);
-        int call = random.nextInt(10);
-        long answer = any(g, call, random);
+    /** An object behind wild calls, the same ones for the same run. */
+    private static MayGreen lived(int run) {
+        Random random = new Random(run);
+        MayGreen g = new MayGreen();
+        for (int call = run % 7; call < 80; call++) {
+            if (call % 40 == 7) {
+                Village.write(g, TEXTS[random.nextInt(TEXTS.length)]);
+                g.village();
+            }
+            any(g, random.nextInt(KINDS), random);
+        }
+        return g;
+    }
+
+    private static void refusedChangesNothing(int run) {
+        MayGreen called = lived(run);
+        MayGreen untouched = lived(run);
+        int refused = called.status(0) + called.status(1) + called.status(2);
+        int call = run % CHANGING;
+        long answer = any(called, call, new Random(run + 1000));
         boolean isRefused = answer == 0 || answer == MayGreen.NONE;
-        due.is("refused and counted by call " + call, g.status(0) + g.status(1) + g.status(2) - refused, isRefused ? 1 : 0);
+        due.is("refused and counted by call " + call, called.status(0) + called.status(1) + called.status(2) - refused,
+            isRefused ? 1 : 0);
         if (isRefused) {
-            due.is("refused and nothing changed by call " + call, Seen.of(g).equals(seen), true);
+            due.is("refused and nothing seen by call " + call, Seen.of(called).equals(Seen.of(untouched)), true);
+            due.is("refused and nothing hidden by call " + call, Seen.goingOn(called).equals(Seen.goingOn(untouched)), true);
         }
     }
 
