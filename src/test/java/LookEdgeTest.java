@@ -387,6 +387,7 @@ final class LookEdgeTest {
         due.is("RIGHT to p then", poor.shown(10, 0, 0), 0);
         due.is("LIKING by V", poor.liking(0, 10), 4000);
         due.is("WORTH by V, Mays ahead too", poor.best(0, 2, 0), 8000);
+        leastThatIsNotNothing();
         MayGreen one = Village.of("left a 0;right p 0;think a p 4 16 0;think p a 4 16 5;fit a p 0;cow 999;");
         one.join(0, 10);
         one.may(1);
@@ -394,6 +395,23 @@ final class LookEdgeTest {
         due.is("never GOOD then", one.shown(0, 10, 1), 0);
         due.is("P 5 is left: not RIGHT", one.shown(10, 0, 0), 0);
         due.is("GOOD by 5 of 16, cut", one.shown(10, 0, 1), 312);
+    }
+
+    private static void leastThatIsNotNothing() {
+        MayGreen good = joined("left a 0;right p 0;think a p 1 1 0;fit a p 16;cow 999;", 0, 10);
+        good.may(1);
+        due.is("R 1, U 0", good.shown(0, 10, 0), 1000);
+        due.is("1 of 16", good.shown(0, 10, 1), 62);
+        MayGreen poor = joined("left a 0;right p 0;think a p 15 16 15;fit a p 0;cow 999;", 0, 10);
+        poor.may(1);
+        due.is("R 0, U 1", poor.shown(0, 10, 0), 0);
+        due.is("15 of 16", poor.shown(0, 10, 1), 937);
+    }
+
+    private static MayGreen joined(String text, int left, int right) {
+        MayGreen g = Village.of(text);
+        g.join(left, right);
+        return g;
     }
 
     private static void fourYearsOfEach() {
@@ -564,6 +582,8 @@ final class LookEdgeTest {
         }
         bestForEachNumberOfMays();
         bestOfFourOthers();
+        eachOfFourOthersIsReckonedAlike();
+        nobodyBeyondThoseThereAre();
         likeActsInOrder();
         whoIsAlonePaysNoCow();
         houseOnlyByStaying();
@@ -603,6 +623,45 @@ final class LookEdgeTest {
         MayGreen nobody = Village.of("left a 0;right p 0;right q 0;worth 5 5;think a q 16 16 0;");
         due.is("of RIGHT ones that there are alone", nobody.best(0, 1, 1), 10);
         due.is("no third to go to", nobody.act(0, 1, 12), VOID);
+    }
+
+    /** Three others bring nothing for sure; the one who may bring something is each of the four in turn. */
+    private static void eachOfFourOthersIsReckonedAlike() {
+        String people = "left a 0;left b 0;left c 0;left d 0;right p 0;right q 0;right r 0;right s 0;";
+        int good = 6250 + (625 * 7000 + 375 * 5000) / 1000;
+        int poor = 3750 + (375 * 5000 + 625 * 3000) / 1000;
+        for (int k = 0; k < 4; k++) {
+            for (int me = 0; me < 8; me++) {
+                String mine = me < 4 ? LEFTS[me] : RIGHTS[me - 4];
+                StringBuilder text = new StringBuilder(people + "child 16 2;cow 9;fit ");
+                String other = me < 4 ? RIGHTS[k] : LEFTS[k];
+                text.append(me < 4 ? mine + " " + other : other + " " + mine).append(" 16;");
+                for (int i = 0; i < 4; i++) {
+                    text.append(i == k ? "" : "think " + mine + " " + (me < 4 ? RIGHTS[i] : LEFTS[i]) + " 16 0 0;");
+                }
+                MayGreen g = Village.of(text.toString());
+                int p = me < 4 ? me : 6 + me;
+                int q = me < 4 ? 10 + k : k;
+                due.is("3 Mays with " + other + " by " + mine, g.best(p, 3, 0), 5000 + (500 * good + 500 * poor) / 1000);
+                g.join(Math.min(p, q), Math.max(p, q));
+                g.may(1);
+                due.is("a GOOD year and a CHILD", g.act(p, 1, q), 8250);
+                due.is("2 Mays then", g.best(p, 2, 0), 8250 + (625 * 9000 + 375 * 7000) / 1000);
+                due.is("by the ACT", g.act(p, 2, q), 8250 + (625 * 9000 + 375 * 7000) / 1000);
+                due.is("alone, then so", g.act(p, 2, NONE), 8250 - 9000);
+            }
+        }
+    }
+
+    private static void nobodyBeyondThoseThereAre() {
+        MayGreen lefts = Village.of("left a 1;left b 2;left c 3;left d 4;right p 0;think a p 16 0 0;think d p 16 0 0;");
+        due.is("d: none but p", lefts.best(3, 2, 0), 8000);
+        due.is("d is alone", lefts.best(3, 2, 1), NONE);
+        due.is("a: none but p", lefts.best(0, 2, 0), 2000);
+        MayGreen rights = Village.of("left a 0;right p 1;right q 2;right r 3;right s 4;think p a 16 0 0;think s a 16 0 0;");
+        due.is("s: none but a", rights.best(13, 2, 0), 8000);
+        due.is("s is alone", rights.best(13, 2, 1), NONE);
+        due.is("p: none but a", rights.best(10, 2, 0), 2000);
     }
 
     private static void likeActsInOrder() {
@@ -832,6 +891,7 @@ final class LookEdgeTest {
         }
         due.is("not PAIRED", g.price(1, 1) + g.price(11, 1), 2 * NONE);
         due.is("0: never SILENT", g.price(0, 1), 0);
+        due.is("rather alone, and not PAIRED", Village.of("left a 9;right p 9;").price(0, 1), NONE);
         priceByOneThousandth();
         greatestPrice();
         priceForEachNumberOfMays();
@@ -846,6 +906,14 @@ final class LookEdgeTest {
             g.join(0, 10);
             due.is("the next whole COW of " + told, g.price(0, 1), thought.charAt(thought.length() - 1) - '0');
         }
+        // 743 behind 4 GOOD years, 742 by 190 of 256.
+        MayGreen least = joined("left a 0;right p 0;right q 0;worth 1 0;fit a p 16;think a q 10 13 10;cow 999;", 0, 10);
+        least.may(4);
+        least.part(0);
+        due.is("p 743", least.liking(0, 10), 743);
+        due.is("q 742", least.liking(0, 11), 742);
+        least.join(0, 11);
+        due.is("one thousandth more", least.price(0, 1), 1);
         MayGreen two = Village.of("left a 0;right p 0;right q 0;worth 2 1;think a p 16 0 0;think a q 1 1 0;house 1 0;");
         two.join(0, 10);
         due.is("1003 by 1000", two.price(0, 1), 1);

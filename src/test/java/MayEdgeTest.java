@@ -96,6 +96,7 @@ final class MayEdgeTest {
             some.taken("seed " + seed, g -> Refusal.of(g.seed(seed)), 1);
             lotsFrom(seed);
             lotsForWhoThereIs(seed);
+            noLotForNone(seed);
         }
         lotsFromNothingOn();
     }
@@ -160,6 +161,46 @@ final class MayEdgeTest {
                 due.is("GOOD by lot", g.two(left, 10 + with[left], 0), Math.min(4, good[left] + (lots.below(16) < 8 ? 1 : 0)));
                 due.is("a CHILD by lot", g.two(left, 10 + with[left], 2), children[left] + (lots.below(16) < 8 ? 1 : 0));
             }
+        }
+    }
+
+    /** z, whom nobody is left for, comes first, in the middle or last. */
+    private static void noLotForNone(int seed) {
+        for (String lefts : new String[] {"left z 99;left a 0;left b 0;", "left a 0;left z 99;left b 0;", "left a 0;left b 0;left z 99;"}) {
+            MayGreen g = Village.of(lefts + "right p 0;right q 0;child 8 1;cow 0;ahead 1;worth 9 9;");
+            g.way(3);
+            g.seed(seed);
+            Lots lots = new Lots(seed);
+            int one = g.person(0, 0) == 0 ? 0 : 1;
+            int other = g.person(2, 0) == 0 ? 2 : 1;
+            for (int round = 0; round < 4; round++) {
+                int with = 10 + lots.below(2);
+                lots.below(1);
+                int children = g.two(one, with, 2) * 100 + g.two(other, 21 - with, 2);
+                g.may(1);
+                due.is("whom a has", g.person(one, 1), with);
+                due.is("whom b has", g.person(other, 1), 21 - with);
+                lots.below(16);
+                children += lots.below(16) < 8 ? 100 : 0;
+                lots.below(16);
+                children += lots.below(16) < 8 ? 1 : 0;
+                due.is("CHILDREN", g.two(one, with, 2) * 100 + g.two(other, 21 - with, 2), children);
+                g.part(one);
+                g.part(other);
+            }
+        }
+        // p is a's: none is left for b.
+        MayGreen none = Village.of("left a 0;left b 0;right p 0;child 8 1;cow 999;ahead 1;");
+        none.way(3);
+        none.seed(seed);
+        Lots lots = new Lots(seed);
+        lots.below(1);
+        int children = 0;
+        for (int year = 0; year < 9; year++) {
+            none.may(1);
+            lots.below(16);
+            children += lots.below(16) < 8 ? 1 : 0;
+            due.is("a and p, no lot for b", none.two(0, 10, 2), children);
         }
     }
 
@@ -243,6 +284,14 @@ final class MayEdgeTest {
         // a and p: a is put off by b, b by c, c by d, each then goes on to the next.
         MayGreen g = Village.of(RUSH);
         due.is("a is put off three times", g.green(0, 0), 13);
+        MayGreen last = Village.of(EIGHT + "think c s 16 16 0;think d s 16 16 0;think s c 16 16 0;");
+        int[] ofLast = {10, 11, 13, 12};
+        MayGreen back = Village.of(EIGHT + "think r d 16 16 0;think s d 16 16 0;think d r 16 16 0;");
+        int[] ofBack = {10, 11, 13, 12};
+        for (int left = 0; left < 4; left++) {
+            due.is("s says no to d, who asks p, q and r then", last.green(0, left), ofLast[left]);
+            due.is("d says no to s, who asks a, b and c then", back.green(1, left), ofBack[left]);
+        }
         MayGreen chain = Village.of("left a 0;left b 0;right p 0;right q 0;think a p 16 12 0;think b p 16 12 0;think p b 16 12 0;"
             + "think q a 16 0 0;");
         due.is("q wouldn't: a has nobody", chain.green(0, 0), NONE);
@@ -384,7 +433,6 @@ final class MayEdgeTest {
         MayGreen none = Village.of("left a 0;right p 0;worth 10 10;child 0 99;cow 999;");
         none.may(50);
         due.is("none by K 0", none.two(0, 10, 2), 0);
-        due.is("none without a line", Village.of("left a 0;right p 0;").may(9) - 9 + none.two(0, 10, 2), 0);
         MayGreen full = Village.of("left a 0;right p 0;worth 0 0;child 16 1;cow 999;think a p 8 8 8;");
         full.join(0, 10);
         full.may(50);
@@ -804,6 +852,12 @@ final class MayEdgeTest {
         MayGreen g = Village.of(FOUR + "think a p 16 12 0;think b p 16 12 0;think p b 16 12 0;fit a p 16;fit b q 16;fit a q 1;fit b p 2;house 2 5;");
         due.is("60 by 640", g.life(1, 1), 60 - 640);
         due.is("3 years, the house for both", g.life(3, 1), 3 * (60 - 640));
+        MayGreen ring = Village.of(RING + "fit a p 0;fit b q 0;fit c r 0;fit d s 0;fit a s 16;fit b p 16;fit c q 16;");
+        due.is("as the LEFT ones ask", ring.life(1, 0), 0);
+        due.is("by 3 of 320 and one of 160", ring.life(1, 1), -3 * 320 - 160);
+        MayGreen like = Village.of("left a 5;right p 5;fit a p 16;");
+        due.is("as much as ALONE, nothing being KNOWN", like.life(1, 0), 160);
+        due.is("by 320", like.life(1, 1), 160 - 320);
         MayGreen shy = Village.of("left a 4;right p 4;think a p 16 0 0;fit a p 16;house 2 5;");
         due.is("alone for life", shy.life(1, 0), 128);
         due.is("by the PARENTS 320", shy.life(1, 1), 128 - 320);

@@ -61,8 +61,11 @@ final class Seen {
 
     private static void lives(StringBuilder seen, MayGreen g) {
         for (int p = 0; p <= 3; p++) {
-            tell(seen, g.person(p, 1));
+            int with = g.person(p, 1);
+            tell(seen, with);
             tell(seen, g.earned(p));
+            tell(seen, g.two(p, with, 2));
+            tell(seen, g.two(p, with, 4));
         }
         tell(seen, g.two(0, 10, 0));
         tell(seen, g.log(MayGreen.NONE, 0));

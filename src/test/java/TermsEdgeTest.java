@@ -282,6 +282,7 @@ final class TermsEdgeTest {
         nameOfEightLettersAndOfNine();
         namesOfALinesWords();
         namesAreAllUnlike();
+        namesOfTheSameLettersAreUnlike();
         nameThatIsNotTold();
         nameThatIsNotOneOfSuch();
     }
@@ -319,6 +320,16 @@ final class TermsEdgeTest {
         fault("right a 1;left a 1;", 15);
         fault("left a 1;left aa 1;right aaa 1;right b 1;", NONE);
         fault("left a 1;left b 1;left c 1;right d 1;right e 1;right c 1;", 53);
+    }
+
+    private static void namesOfTheSameLettersAreUnlike() {
+        fault("left ab 1;right ba 1;", NONE);
+        fault("left aab 1;left aba 1;right baa 1;think aba baa 1 1 1;fit aab baa 1;", NONE);
+        fault("left abcdefgh 1;right abcdefhg 1;", NONE);
+        fault("left a 1;right b 1;think ab a 1 1 1;", 25);
+        MayGreen g = Village.of("left ab 1;left ba 2;right cd 3;right dc 4;fit ba dc 1;fit ab dc 2;");
+        due.is("ba and dc", g.two(1, 11, 3), 1);
+        due.is("ab and dc", g.two(0, 11, 3), 2);
     }
 
     private static void nameThatIsNotTold() {
@@ -387,6 +398,12 @@ final class TermsEdgeTest {
             fault(four + all + line + ";", four.length() + all.length() + 6);
         }
         fault(four + "think a b 1 1 1;" + all, NONE);
+        for (String last : new String[] {"fit d s 1;", "fit a s 1;", "fit d p 1;"}) {
+            fault(EIGHT + last + "fit d r 1;" + last, EIGHT.length() + 26);
+        }
+        for (String last : new String[] {"think d s 1 1 1;", "think s d 1 1 1;", "think a s 1 1 1;", "think p d 1 1 1;"}) {
+            fault(EIGHT + last + "think s c 1 1 1;" + last, EIGHT.length() + 40);
+        }
     }
 
     // Promise 1.
@@ -562,6 +579,8 @@ final class TermsEdgeTest {
         refusedVillageLeavesTheText();
         theTextIsEmptyThen();
         allOfItTakesThePlace();
+        yearsAndYesesAreNoMore();
+        linesNotToldAreAsWithoutThem();
         whoIsNoMore();
     }
 
@@ -605,6 +624,45 @@ final class TermsEdgeTest {
         counted.way(9);
         counted.village();
         due.is("what was REFUSED stays", counted.status(0) + counted.status(1) + counted.status(2), before + 1);
+    }
+
+    private static void yearsAndYesesAreNoMore() {
+        MayGreen g = Village.of(EIGHT + "cow 999;worth 99 99;");
+        g.may(3);
+        due.is("YESES", g.pairs(2, 1), 4);
+        Village.write(g, EIGHT);
+        g.village();
+        for (int k = 0; k < 4; k++) {
+            g.join(k, 13 - k);
+            due.is("no years of " + k, g.person(k, 2) + g.person(13 - k, 2), 0);
+            due.is("no YESES of " + k, g.two(k, 13 - k, 4), 0);
+        }
+        due.is("no pair has any", g.pairs(1, 1), 0);
+    }
+
+    /** Each line is told in the village ahead, and in a text whose FAULT was asked, but not in this one. */
+    private static void linesNotToldAreAsWithoutThem() {
+        String told = "think a b 1 3 2;think b a 1 3 2;fit a b 3;worth 30 20;house 2 50;child 16 40;cow 7;ahead 1;";
+        MayGreen g = Village.of(PAIR + told);
+        Village.write(g, PAIR + told);
+        due.is("no FAULT", g.fault(), NONE);
+        Village.write(g, "left a 0;right b 0;");
+        due.is("village", g.village(), 2);
+        due.is("C, G, P", g.think(0, 10, 0) * 10000 + g.think(0, 10, 1) * 100 + g.think(0, 10, 2), 81204);
+        due.is("C, G, P of b", g.think(10, 0, 0) * 10000 + g.think(10, 0, 1) * 100 + g.think(10, 0, 2), 81204);
+        due.is("F", g.two(0, 10, 3), 8);
+        due.is("W and V", g.liking(0, 10), 5000);
+        due.is("W by the PARENTS", g.parents(NONE), 160);
+        due.is("no house", g.life(100, 0), 16000);
+        due.is("T", g.count(4), 3);
+        g.join(0, 10);
+        due.is("no COW", g.act(0, 1, NONE), 0);
+        g.may(50);
+        due.is("no CHILD", g.two(0, 10, 2), 0);
+        MayGreen anew = Village.of("left a 0;right b 0;");
+        anew.join(0, 10);
+        anew.may(50);
+        due.is("as without all that", Seen.of(g).equals(Seen.of(anew)), true);
     }
 
     private static void whoIsNoMore() {
