@@ -1,7 +1,10 @@
 import java.util.function.Supplier;
 import java.util.function.ToLongFunction;
 
-/** Calls at the edge of what can be: those that are refused are counted by their reason and change nothing else. */
+/**
+ * Calls at the edge of what can be: those that are refused are counted by their reason and change nothing else; those
+ * that only ask change nothing at all.
+ */
 final class Refusal {
     private final Due due;
     private final Supplier<MayGreen> start;
@@ -15,14 +18,27 @@ final class Refusal {
     void refused(String what, ToLongFunction<MayGreen> call, long answer, int reason) {
         MayGreen called = start.get();
         counted(what, called, call, answer, reason);
-        MayGreen untouched = start.get();
-        due.is(what + " changes nothing", Seen.of(called).equals(Seen.of(untouched)), true);
-        due.is(what + " changes nothing hidden", Seen.goingOn(called).equals(Seen.goingOn(untouched)), true);
+        changesNothing(what, called);
+    }
+
+    /** The call asks, whatever it answers: none is counted as REFUSED. */
+    void asked(String what, ToLongFunction<MayGreen> call) {
+        MayGreen called = start.get();
+        long answer = call.applyAsLong(start.get());
+        counted(what, called, call, answer, MayGreen.NONE);
+        due.is(what + ", asked again", call.applyAsLong(called), answer);
+        changesNothing(what, called);
     }
 
     /** The call can be: it answers, and none is counted as REFUSED. */
     void taken(String what, ToLongFunction<MayGreen> call, long answer) {
         counted(what, start.get(), call, answer, MayGreen.NONE);
+    }
+
+    private void changesNothing(String what, MayGreen called) {
+        MayGreen untouched = start.get();
+        due.is(what + " changes nothing", Seen.of(called).equals(Seen.of(untouched)), true);
+        due.is(what + " changes nothing hidden", Seen.goingOn(called).equals(Seen.goingOn(untouched)), true);
     }
 
     private void counted(String what, MayGreen green, ToLongFunction<MayGreen> call, long answer, int reason) {
